@@ -761,34 +761,29 @@ public final class FarewellStones {
             seen[3] = moss;
             seen[4] = across;
             seen[5] = along;
-            return run();
-        }
-
-        private int run() {
             int top = 0;
             int next = 0;
             for (int turn = 0; turn < size && next < size; turn++) {
                 int op = ops[next];
                 int arg = args[next];
                 next++;
+                if (op == END) return top > 0 ? stack[top - 1] : 0;
                 if (op == PUSH || op == LOOK) {
                     if (top >= STACK) return 0;
                     stack[top] = op == PUSH ? arg : seenAt(arg);
                     top++;
-                } else if (op == END) {
-                    return top > 0 ? stack[top - 1] : 0;
+                    continue;
+                }
+                if (top < 2) return 0;
+                int left = stack[top - 2];
+                int right = stack[top - 1];
+                if (op == DIVIDE && right == 0) return 0;
+                top -= 2;
+                if (op == UNLESS) {
+                    if (left >= right) next = arg;
                 } else {
-                    if (top < 2) return 0;
-                    top -= 2;
-                    int left = stack[top];
-                    int right = stack[top + 1];
-                    if (op == DIVIDE && right == 0) return 0;
-                    if (op == UNLESS) {
-                        if (left >= right) next = arg;
-                    } else {
-                        stack[top] = joined(op, left, right);
-                        top++;
-                    }
+                    stack[top] = joined(op, left, right);
+                    top++;
                 }
             }
             return 0;

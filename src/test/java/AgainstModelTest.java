@@ -2,7 +2,7 @@ import java.util.Random;
 
 /** Runs of calls by chance (the same ones each time), each answered by the program and by the document's model. */
 public final class AgainstModelTest {
-    private static final int RUNS = 1500;
+    private static final int RUNS = 1000;
     private static final int CALLS = 250;
 
     private final Check check = new Check("AgainstModelTest");
@@ -17,8 +17,7 @@ public final class AgainstModelTest {
 
     private void run() {
         for (int i = 0; i < RUNS && check.isClean(); i++) {
-            stones = new FarewellStones();
-            model = new Model();
+            begin();
             int calls = 0;
             if (i % 10 != 0) calls += read(texts.river());
             for (; calls < CALLS && check.isClean(); calls++) {
@@ -26,12 +25,42 @@ public final class AgainstModelTest {
                 else call();
             }
         }
-        for (int i = 0; i < 4000 && check.isClean(); i++) {
-            stones = new FarewellStones();
-            model = new Model();
+        for (int i = 0; i < 6000 && check.isClean(); i++) {
+            begin();
             read(anyText());
         }
+        for (int i = 0; i < 60 && check.isClean(); i++) manyWays();
+        for (int i = 0; i < 1500 && check.isClean(); i++) manyGivers();
         check.end();
+    }
+
+    private void begin() {
+        stones = new FarewellStones();
+        model = new Model();
+    }
+
+    private void manyWays() {
+        begin();
+        feed(texts.manyWays());
+        readTape("manyWays", 0);
+        for (int i = 0; i < 72; i++) {
+            int x = chance.nextInt(model.count(0));
+            int y = chance.nextInt(model.count(1));
+            check.due("hurl " + i / 9 + " " + x + " " + y, stones.hurl(i / 9, x, y), model.hurl(i / 9, x, y));
+            check.due("fords", stones.fords(), model.fords());
+        }
+    }
+
+    private void manyGivers() {
+        begin();
+        feed(texts.manyGivers());
+        readTape("manyGivers", 0);
+        griefs();
+        for (int i = 0; i < 4; i++) {
+            int who = chance.nextInt(model.count(3));
+            check.due("hurl " + who, stones.hurl(who, 0, 0), model.hurl(who, 0, 0));
+        }
+        griefs();
     }
 
     private String anyText() {
@@ -43,7 +72,12 @@ public final class AgainstModelTest {
     }
 
     private int read(String text) {
-        int calls = 3;
+        int calls = feed(text);
+        return calls + readTape(text, chance.nextInt(3) == 0 ? chance.nextInt(30) - 2 : 0);
+    }
+
+    private int feed(String text) {
+        int calls = 0;
         while (text.length() % 20 != 0) text += " ";
         for (int at = 0; at < text.length(); at += 20) {
             int[] w = new int[5];
@@ -51,12 +85,15 @@ public final class AgainstModelTest {
             check.due("feed", stones.feed(w[0], w[1], w[2], w[3], w[4]), model.feed(w));
             calls++;
         }
-        int back = chance.nextInt(3) == 0 ? chance.nextInt(30) - 2 : 0;
+        return calls;
+    }
+
+    private int readTape(String text, int back) {
         check.due("back " + back, stones.back(back), model.back(back));
         int want = model.read();
         check.due("read of " + text, stones.read(), want);
         check.due("place of " + want + " in " + text, stones.place(), model.place());
-        return calls;
+        return 3;
     }
 
     private int x() {

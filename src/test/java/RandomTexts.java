@@ -50,6 +50,39 @@ final class RandomTexts {
         return text.toString();
     }
 
+    /** A wide river with many places to stand on, and with many stones. */
+    String manyWays() {
+        int along = 4 + chance.nextInt(4);
+        int across = 3 + chance.nextInt(4);
+        StringBuilder text = new StringBuilder("river ").append(along).append(' ').append(across).append(';');
+        for (int i = 0; i < 20; i++) {
+            text.append("depth ").append(chance.nextInt(along)).append(' ').append(chance.nextInt(across)).append(" 0;");
+        }
+        text.append("leap ").append(chance.nextInt(4) == 0 ? 2 : 1).append(';');
+        for (char name = 'a'; name < 'i'; name++) text.append("leaver ").append(name).append(" 0 9 9 1;");
+        return text.toString();
+    }
+
+    /** A deep river with much flow, for which many must give, at griefs of which many are alike. */
+    String manyGivers() {
+        int along = 1 + chance.nextInt(9);
+        int across = 1 + chance.nextInt(6);
+        StringBuilder text = new StringBuilder("river ").append(along).append(' ').append(across).append(';');
+        for (int i = 0; i < 20; i++) {
+            text.append("depth ").append(chance.nextInt(along)).append(' ').append(chance.nextInt(across)).append(' ')
+                .append(1 + chance.nextInt(6)).append(';');
+        }
+        for (int y = 0; y < across; y++) text.append("flow ").append(y).append(' ').append(chance.nextInt(10)).append(';');
+        if (chance.nextInt(3) == 0) text.append("leap 2;");
+        int griefs = 1 + chance.nextInt(4);
+        int many = 2 + chance.nextInt(4);
+        for (int i = 2 + chance.nextInt(7); i > 0; i--) {
+            text.append("leaver ").append((char) ('a' + i)).append(" 0 ").append(1 + chance.nextInt(9)).append(' ')
+                .append(1 + chance.nextInt(many)).append(' ').append(chance.nextInt(griefs)).append(';');
+        }
+        return text.toString();
+    }
+
     String law() {
         StringBuilder text = new StringBuilder("=");
         for (int i = chance.nextInt(6) == 0 ? chance.nextInt(5) : chance.nextInt(2); i > 0; i--) {
@@ -77,9 +110,10 @@ final class RandomTexts {
     /** A text in which something was put, taken or changed. */
     String broken() {
         StringBuilder text = new StringBuilder(river());
-        for (int i = 1 + chance.nextInt(2); i > 0 && text.length() > 0; i--) {
+        for (int i = 1 + chance.nextInt(3); i > 0 && text.length() > 0; i--) {
             int at = chance.nextInt(text.length() + 1);
-            switch (chance.nextInt(5)) {
+            switch (chance.nextInt(6)) {
+                case 5: text = otherNumber(text); break;
                 case 0: text.insert(at, " " + piece() + " "); break;
                 case 1: text.insert(at, piece()); break;
                 case 2: text.delete(at, Math.min(text.length(), at + 1 + chance.nextInt(4))); break;
@@ -90,10 +124,21 @@ final class RandomTexts {
         return text.toString();
     }
 
+    private StringBuilder otherNumber(StringBuilder text) {
+        String[] numbers = {"0", "1", "4", "5", "7", "8", "9", "10", "11", "12", "13", "99", "100", "199", "200", "0009"};
+        java.util.regex.Matcher number = java.util.regex.Pattern.compile("[0-9]+").matcher(text);
+        int skip = chance.nextInt(80);
+        while (number.find()) {
+            if (skip-- > 0) continue;
+            return text.replace(number.start(), number.end(), numbers[chance.nextInt(numbers.length)]);
+        }
+        return text;
+    }
+
     /** Words and signs that mostly go on rightly, until they don't or there is no room for more. */
     String filled() {
         StringBuilder text = new StringBuilder();
-        int kind = chance.nextInt(6);
+        int kind = chance.nextInt(7);
         for (int i = 0; i < 140 && text.length() < 1900; i++) {
             switch (kind) {
                 case 0: text.append("leap 1;"); break;
@@ -101,8 +146,8 @@ final class RandomTexts {
                 case 2: text.append("flood 1 1;"); break;
                 case 3: text.append("leaver ").append((char) ('a' + i % 26)).append(" 1 1 1 1;"); break;
                 case 4: text.append(i == 0 ? "carry=" : "+").append(chance.nextInt(300) == 0 ? ";" : "1"); break;
-                default: text.append(i == 0 ? "slip=" : "").append(chance.nextInt(9) == 0 ? "if 1<2 then 3 else " : "(");
-                    break;
+                case 5: text.append(i == 0 ? "slip=" : i % 5 == 4 ? "1;carry=" : "if 1<2 then 3 else "); break;
+                default: text.append(i == 0 ? "slip=" : chance.nextInt(9) == 0 ? "1+" : "("); break;
             }
             if (chance.nextInt(400) == 0) text.append(piece());
         }

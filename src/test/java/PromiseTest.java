@@ -722,6 +722,9 @@ public final class PromiseTest {
         givers("river 1 2; flow 1 5; depth 0 0 2; depth 0 1 2; leaver a 0 6 3 1; leaver b 0 1 9 0;", 2, 2);
         // The first STONE goes to a, though c gives at less grief: b would give likewise else.
         givers("river 1 1; depth 0 0 2; leaver a 0 1 1 5; leaver b 0 1 1 5; leaver c 0 1 1 0;", 1, 0, 1);
+        // a can't give at 0,0: b gives the first there, though c will give two in any case.
+        givers("river 1 2; depth 0 0 2; depth 0 1 1; flow 0 4; leaver a 0 4 1 1; leaver b 0 9 2 1; leaver c 0 7 2 0;", 0, 1, 2);
+        givers("river 1 2; depth 0 0 2; depth 0 1 1; flow 1 3; leaver a 0 9 2 0; leaver b 0 2 1 0; leaver c 0 6 2 0;", 2, 0, 1);
         FarewellStones s = Check.of("river 1 1; depth 0 0 1; leaver a 0 1 2 4;");
         for (int who : new int[] {-1, 1, 8, LEAST, MOST}) due("no such one " + who, s.gives(who), NONE);
         due("nothing happens", s.count(6), 0);
@@ -808,6 +811,10 @@ public final class PromiseTest {
         // The first of the shortest ways, 1,0 1,1 1,2 1,3, has to be turned aside.
         due("turned aside", Check.of("river 3 4; depth 0 0 0; depth 1 0 0; depth 0 1 0; depth 1 1 0; depth 1 2 0; depth 2 1 0;"
             + "depth 2 2 0; depth 1 3 0; depth 2 3 0; depth 0 2 0;").fords(), 2);
+        // The shortest way is x = 2; the other two come in and go out around 2,2, which is left alone then.
+        due("turned aside over two steps", Check.of("river 5 5; depth 2 0 0; depth 2 1 0; depth 2 2 0; depth 2 3 0;"
+            + "depth 2 4 0; depth 0 0 0; depth 0 1 0; depth 0 2 0; depth 0 3 0; depth 1 3 0; depth 3 1 0; depth 4 1 0;"
+            + "depth 4 2 0; depth 4 3 0; depth 4 4 0;").fords(), 2);
     }
 
     private static String flat(int along, int across) {

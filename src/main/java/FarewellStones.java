@@ -266,7 +266,7 @@ public final class FarewellStones {
         if (n < 0 || n > MAX_DAYS) return NONE;
         if (n > 0) {
             past.keep(bed);
-            bed.passDays(river, n);
+            bed.passDays(river, n, 0, river.across);
         }
         return bed.day;
     }
@@ -365,7 +365,7 @@ public final class FarewellStones {
         trial.copyFrom(bed);
         for (int i = 0; i < MAX_BREAKS_DAYS; i++) {
             int day = trial.day;
-            if (trial.passDay(river) && !isWayOver(trial)) return day;
+            if (trial.passDay(river, 0, river.across) && !isWayOver(trial)) return day;
         }
         return NO_WAY;
     }
@@ -400,8 +400,11 @@ public final class FarewellStones {
     public int fits(int leaver, int k, int n, int i) {
         if (!isLeaver(leaver) || !bed.mayThrow(river, leaver)) return NONE;
         if (k < 0 || k > told || n < 0 || n > MAX_FITS_DAYS || i < NONE) return NONE;
+        int wrongRows = rowsWrongWithout(k, n);
         int found = 0;
         for (int y = 0; y < river.across; y++) {
+            // What is thrown changes nothing in other rows.
+            if ((wrongRows & ~(1 << y)) != 0) continue;
             for (int x = 0; x < river.along; x++) {
                 if (!fitsAt(leaver, x, y, k, n)) continue;
                 if (found == i) return cellName(cellNumber(x, y));
@@ -411,12 +414,35 @@ public final class FarewellStones {
         return i == NONE ? found : NONE;
     }
 
+    /** The rows (bits) in which something KNOWN is not so behind n days, if nobody throws. */
+    private int rowsWrongWithout(int k, int n) {
+        trial.copyFrom(bed);
+        trial.passDays(river, n, 0, river.across);
+        int bits = 0;
+        for (int y = 0; y < river.across; y++) {
+            if (!isKnownSo(k, y)) bits |= 1 << y;
+        }
+        return bits;
+    }
+
     private boolean fitsAt(int leaver, int x, int y, int k, int n) {
+        if (!isKnownOf(k, y)) return true;
         trial.copyFrom(bed);
         trial.throwStone(river, leaver, x, y);
-        trial.passDays(river, n);
+        trial.passDays(river, n, y, y + 1);
+        return isKnownSo(k, y);
+    }
+
+    private boolean isKnownOf(int k, int y) {
         for (int i = 0; i < k && i < MAX_TOLD; i++) {
-            if (trial.heights[toldCells[i]] != toldStones[i]) return false;
+            if (toldCells[i] / STRIDE == y) return true;
+        }
+        return false;
+    }
+
+    private boolean isKnownSo(int k, int y) {
+        for (int i = 0; i < k && i < MAX_TOLD; i++) {
+            if (toldCells[i] / STRIDE == y && trial.heights[toldCells[i]] != toldStones[i]) return false;
         }
         return true;
     }
@@ -928,34 +954,33 @@ public final class FarewellStones {
             return at;
         }
 
-        void passDays(River river, int n) {
-            for (int i = 0; i < n && i < MAX_DAYS; i++) passDay(river);
+        /** The floods come by in the rows from one up to another alone. */
+        void passDays(River river, int n, int from, int to) {
+            for (int i = 0; i < n && i < MAX_DAYS; i++) passDay(river, from, to);
         }
 
         /** True if a flood came by. */
-        boolean passDay(River river) {
+        boolean passDay(River river, int from, int to) {
             boolean came = false;
             for (int i = 0; i < river.floods && i < MAX_FLOODS; i++) {
                 if (river.floodDays[i] != day) continue;
-                flood(river, river.forces[i]);
+                for (int y = from; y < to; y++) floodRow(river, river.forces[i], y);
                 came = true;
             }
             day++;
             return came;
         }
 
-        private void flood(River river, int force) {
-            for (int y = 0; y < river.across; y++) {
-                for (int x = river.along - 1; x >= 0; x--) {
-                    int at = cellNumber(x, y);
-                    int height = heights[at];
-                    if (height == 0) continue;
-                    // MOSS grows before the floods of the day come.
-                    int moss = mossOn(at, day + 1);
-                    int told = river.carry.tells(height, river.depths[at], force, moss, y, x);
-                    int going = Math.max(0, Math.min(told, height));
-                    if (going > 0) carryOff(at, going, river.has(x + force, y) ? at + force : LOST);
-                }
+        private void floodRow(River river, int force, int y) {
+            for (int x = river.along - 1; x >= 0; x--) {
+                int at = cellNumber(x, y);
+                int height = heights[at];
+                if (height == 0) continue;
+                // MOSS grows before the floods of the day come.
+                int moss = mossOn(at, day + 1);
+                int told = river.carry.tells(height, river.depths[at], force, moss, y, x);
+                int going = Math.max(0, Math.min(told, height));
+                if (going > 0) carryOff(at, going, river.has(x + force, y) ? at + force : LOST);
             }
         }
 
@@ -1144,11 +1169,12 @@ public final class FarewellStones {
                 costs[at] = ends ? perWeight * weights[at] + perLeap : NEVER;
                 done[at] = false;
             }
+            int leaps = river.countLeaps();
             for (int n = 0; n < CELLS; n++) {
                 int at = cheapest();
                 if (at == NONE) return;
                 done[at] = true;
-                for (int i = 0; i < river.countLeaps(); i++) {
+                for (int i = 0; i < leaps; i++) {
                     int from = river.leapFrom(at, i);
                     if (from == NONE || weights[from] < 0) continue;
                     costs[from] = Math.min(costs[from], perWeight * weights[from] + perLeap + costs[at]);
@@ -1192,6 +1218,7 @@ public final class FarewellStones {
         /** True if there is a way at all. */
         boolean leadOver(River river) {
             if (river.isLeptAtOnce()) return true;
+            int leaps = river.countLeaps();
             int tail = 0;
             for (int at = 0; at < CELLS; at++) {
                 done[at] = weights[at] >= 0 && river.isNearEnough(at);
@@ -1202,7 +1229,7 @@ public final class FarewellStones {
             for (int head = 0; head < tail && head < CELLS; head++) {
                 int at = queue[head];
                 if (river.isFarEnough(at)) return true;
-                for (int i = 0; i < river.countLeaps(); i++) {
+                for (int i = 0; i < leaps; i++) {
                     int to = river.leapFrom(at, i);
                     if (to == NONE || weights[to] < 0 || done[to]) continue;
                     done[to] = true;
@@ -1267,7 +1294,8 @@ public final class FarewellStones {
 
         private void goOnFrom(River river, int[] weights, int at) {
             if (goesTo[at] != NOTHING) reach(at, CELLS + at);
-            for (int i = 0; i < river.countLeaps(); i++) {
+            int leaps = river.countLeaps();
+            for (int i = 0; i < leaps; i++) {
                 int to = river.leapFrom(at, i);
                 if (to != NONE && weights[to] >= 0 && goesTo[at] != to) reach(to, CELLS + at);
             }

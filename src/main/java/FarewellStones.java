@@ -92,7 +92,7 @@ public final class FarewellStones {
     private static final int UNLESS = 6;
     private static final int END = 7;
     private static final int VARS = 6;
-    // Each of 7 brackets within one another leaves two numbers waiting, an if one more.
+    // Each of 6 brackets within one another leaves two numbers waiting, what is within them three, an if one more.
     private static final int STACK = 32;
 
     // Where a LEAP can go: nearest first, so that those of a LEAP of n are the first 2 * n * (n + 1).
